@@ -191,15 +191,12 @@ public final class BreakHeap {
     // bounds the loop.
     private void reachFromRecords() {
         for (int next = 0; next < MOST_RECORDS && next < reachedCount; next++) {
-            reachFromFields(reachedInOrder[next]);
-        }
-    }
-
-    private void reachFromFields(int record) {
-        int first = record * MOST_FIELDS;
-        int fieldCount = fieldCounts[record];
-        for (int field = 0; field < fieldCount; field++) {
-            reach(fieldTerms[first + field]);
+            int record = reachedInOrder[next];
+            int first = record * MOST_FIELDS;
+            int fieldCount = fieldCounts[record];
+            for (int field = 0; field < fieldCount; field++) {
+                reach(fieldTerms[first + field]);
+            }
         }
     }
 
