@@ -236,12 +236,14 @@ public final class PromiseBoundaryTest extends CheckedCalls {
     private static void makeChangesNothingElseWhereFull() {
         for (int reached = 66; reached <= 72; reached++) {
             int words = reached;
-            State allReached = new State("P2 " + words + " words reached", () -> filled(words, 0));
-            State someUnreached = new State("P2 " + words + " words reached, some not", () -> filled(words, 72 - words));
+            String name = "P2 " + words + " words reached";
+            State allReached = new State(name, () -> filled(words, 0));
+            State someUnreached = new State(name + ", the others not", () -> filled(words, 72 - words));
             for (int size = Math.max(1, 72 - words); size <= 6; size++) {
                 for (int dst = 0; dst < 6; dst++) {
                     Call full = Call.make(dst, size, -2);
                     dueLikeCollecting(allReached, full, words);
+                    // One word alone is too few for an unreached record.
                     if (words != 71) {
                         dueLikeCollecting(someUnreached, full, words);
                     }
